@@ -1,0 +1,54 @@
+/**
+ * Maps in states that several tests start from. The homes of the keys that the tests use:
+ *
+ * <pre>
+ * key        0  1  2 21 22 23 27 41 42 46 77 999
+ * of  8      0  7  7  4  6  0  0  5  1  1  2   0
+ * of 16      0 15 15 12 14  0  8 13  9  1  2   0
+ * </pre>
+ */
+final class Maps {
+    private Maps() {
+    }
+
+    /** Five keys of eight slots: 0 in 0, 23 in 1, 42 in 2, 77 in 3, 41 in 5; a value is ten times its key. */
+    static StepMap withFive(int half) {
+        StepMap x = new StepMap(half);
+        for (int k : new int[] {0, 23, 42, 77, 41}) {
+            x.put(k, 10 * k);
+        }
+        return x;
+    }
+
+    /** The five and 27 in slot 4, and so doubled: the old table has all six, the cursor is 0. */
+    static StepMap growing() {
+        StepMap x = withFive(64);
+        x.put(27, 270);
+        return x;
+    }
+
+    /** Sixteen slots with 0 in slot 0, 23 in slot 1, 42 in slot 9; not migrating. */
+    static StepMap grown() {
+        StepMap x = growing();
+        x.remove(77);
+        x.remove(27);
+        x.remove(41);
+        return x;
+    }
+
+    /** Halved from sixteen slots to eight: the old table has 0 in slot 0 and 23 in slot 1, the cursor is 0. */
+    static StepMap shrinking() {
+        StepMap x = grown();
+        x.remove(42);
+        return x;
+    }
+
+    /** A map with the keys 0 .. count - 1, each its own value. */
+    static StepMap counted(int half, int count) {
+        StepMap x = new StepMap(half);
+        for (int k = 0; k < count; k++) {
+            x.put(k, k);
+        }
+        return x;
+    }
+}
