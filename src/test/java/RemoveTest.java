@@ -10,6 +10,7 @@ public final class RemoveTest {
         theGapClosesRoundTheRing();
         anOldTablesSlotIsTaken();
         fromTheNewTableWhileItIsMigrating();
+        aMovedKeyIsNotLeftInTheOldTable();
         CHECKS.end();
     }
 
@@ -94,6 +95,18 @@ public final class RemoveTest {
         // 1 to find it; 1, whose key moves up, and 2; 4 moved slots, of which 27 and 41 take 1 each.
         CHECKS.dueState("remove(0)", x, 4, 16, -1, 1 + 2 + 4 + 1 + 1);
         dueSlots(x, new int[] {0, 23, 42, 27, 41}, new int[] {-1, 0, 9, 8, 13});
+    }
+
+    private static void aMovedKeyIsNotLeftInTheOldTable() {
+        StepMap x = Maps.shrinking();
+        x.put(46, 1);
+        CHECKS.due("slot(23), moved", x.slot(23), 2);
+        CHECKS.due("remove(23)", x.remove(23), true);
+        CHECKS.dueState("remove(23)", x, 2, 8, 8, 3 + 1 + 4);
+        CHECKS.due("slot(23)", x.slot(23), -1);
+        CHECKS.due("has(23)", x.has(23), false);
+        CHECKS.due("lastWork() over two taken slots", x.lastWork(), 3 + 3);
+        CHECKS.due("remove(23) again", x.remove(23), false);
     }
 
     private static void dueSlots(StepMap x, int[] keys, int[] slots) {
