@@ -21,7 +21,7 @@ final class Checks {
     }
 
     /** What every observer answers: the cursor also tells whether it is migrating. */
-    void dueState(String after, StepMap x, int size, int capacity, int cursor, int work) {
+    void dueState(String after, LimitedMap x, int size, int capacity, int cursor, int work) {
         due(after + ": size()", x.size(), size);
         due(after + ": capacity()", x.capacity(), capacity);
         due(after + ": migrating()", x.migrating(), cursor != -1);

@@ -3,7 +3,7 @@ public final class CursorTest {
     private static final Checks CHECKS = new Checks("CursorTest");
 
     public static void main(String[] args) {
-        StepMap x = Maps.withFive(64);
+        LimitedMap x = Maps.withFive(64);
         CHECKS.due("cursor() with 5 keys of 8", x.cursor(), -1);
         x.put(27, 1);
         CHECKS.due("cursor() with 6 keys of 8", x.cursor(), 0);
@@ -18,7 +18,7 @@ public final class CursorTest {
         x.remove(46);
         CHECKS.due("cursor() behind the last slot", x.cursor(), -1);
 
-        x = new StepMap(1024);
+        x = new LimitedMap(1024);
         for (int k = 0; k < 96; k++) {
             x.put(k, k);
         }

@@ -3,7 +3,7 @@ public final class GetTest {
     private static final Checks CHECKS = new Checks("GetTest");
 
     public static void main(String[] args) {
-        StepMap x = Maps.withFive(64);
+        LimitedMap x = Maps.withFive(64);
         CHECKS.due("get(77)", x.get(77), 770);
         CHECKS.due("get(0)", x.get(0), 0);
         CHECKS.due("get(27), which is not there", x.get(27), 0);
@@ -34,7 +34,7 @@ public final class GetTest {
     }
 
     private static void manyKeysKeepTheirValues() {
-        StepMap x = Maps.counted(1024, 200);
+        LimitedMap x = Maps.counted(1024, 200);
         for (int k = 0; k < 200; k++) {
             CHECKS.due("get(" + k + ") of 200 keys", x.get(k), k);
         }

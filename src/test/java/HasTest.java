@@ -3,7 +3,7 @@ public final class HasTest {
     private static final Checks CHECKS = new Checks("HasTest");
 
     public static void main(String[] args) {
-        StepMap x = Maps.withFive(64);
+        LimitedMap x = Maps.withFive(64);
         CHECKS.due("has(0), whose value is 0", x.has(0), true);
         CHECKS.due("has(77)", x.has(77), true);
         CHECKS.due("has(27)", x.has(27), false);
@@ -34,7 +34,7 @@ public final class HasTest {
     }
 
     private static void anEmptiedTableIsEmptyWhenItComesAgain() {
-        StepMap x = Maps.grown();
+        LimitedMap x = Maps.grown();
         x.remove(23);
         // Halved with 0 and 42: the new table once had 23, 77, 41 and 27.
         for (int k : new int[] {23, 77, 41, 27}) {

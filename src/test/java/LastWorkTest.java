@@ -12,7 +12,7 @@ public final class LastWorkTest {
     }
 
     private static void beforeAny() {
-        StepMap x = new StepMap(64);
+        LimitedMap x = new LimitedMap(64);
         x.slot(5);
         x.size();
         x.cursor();
@@ -20,7 +20,7 @@ public final class LastWorkTest {
     }
 
     private static void ofLookups() {
-        StepMap x = new StepMap(64);
+        LimitedMap x = new LimitedMap(64);
         x.put(0, 1);
         CHECKS.due("put at home", x.lastWork(), 1);
         x.put(23, 1);
@@ -54,7 +54,7 @@ public final class LastWorkTest {
     }
 
     private static void ofARefusedPut() {
-        StepMap x = Maps.withFive(8);
+        LimitedMap x = Maps.withFive(8);
         x.get(0);
         x.put(27, 1);
         CHECKS.due("refused put", x.lastWork(), 5);
@@ -63,7 +63,7 @@ public final class LastWorkTest {
     }
 
     private static void onlyTheLatestCallCounts() {
-        StepMap x = Maps.withFive(64);
+        LimitedMap x = Maps.withFive(64);
         x.get(27);
         x.slot(0);
         x.slot(27);
@@ -77,7 +77,7 @@ public final class LastWorkTest {
 
     /** From sixteen slots with 0 in 0 and 23 in 1 to eight, step by step. */
     private static void ofAWholeMigration() {
-        StepMap x = Maps.shrinking();
+        LimitedMap x = Maps.shrinking();
         CHECKS.due("remove that makes it halve", x.lastWork(), 2);
         x.put(46, 5);
         CHECKS.due("put(46, 5): 1 + 2, 4 moved, 1 + 3 for their keys", x.lastWork(), 11);

@@ -12,8 +12,8 @@ final class Maps {
     }
 
     /** Five keys of eight slots: 0 in 0, 23 in 1, 42 in 2, 77 in 3, 41 in 5; a value is ten times its key. */
-    static StepMap withFive(int half) {
-        StepMap x = new StepMap(half);
+    static LimitedMap withFive(int half) {
+        LimitedMap x = new LimitedMap(half);
         for (int k : new int[] {0, 23, 42, 77, 41}) {
             x.put(k, 10 * k);
         }
@@ -21,15 +21,15 @@ final class Maps {
     }
 
     /** The five and 27 in slot 4, and so doubled: the old table has all six, the cursor is 0. */
-    static StepMap growing() {
-        StepMap x = withFive(64);
+    static LimitedMap growing() {
+        LimitedMap x = withFive(64);
         x.put(27, 270);
         return x;
     }
 
     /** Sixteen slots with 0 in slot 0, 23 in slot 1, 42 in slot 9; not migrating. */
-    static StepMap grown() {
-        StepMap x = growing();
+    static LimitedMap grown() {
+        LimitedMap x = growing();
         x.remove(77);
         x.remove(27);
         x.remove(41);
@@ -37,15 +37,15 @@ final class Maps {
     }
 
     /** Halved from sixteen slots to eight: the old table has 0 in slot 0 and 23 in slot 1, the cursor is 0. */
-    static StepMap shrinking() {
-        StepMap x = grown();
+    static LimitedMap shrinking() {
+        LimitedMap x = grown();
         x.remove(42);
         return x;
     }
 
     /** A map with the keys 0 .. count - 1, each its own value. */
-    static StepMap counted(int half, int count) {
-        StepMap x = new StepMap(half);
+    static LimitedMap counted(int half, int count) {
+        LimitedMap x = new LimitedMap(half);
         for (int k = 0; k < count; k++) {
             x.put(k, k);
         }

@@ -3,7 +3,7 @@ public final class MigratingTest {
     private static final Checks CHECKS = new Checks("MigratingTest");
 
     public static void main(String[] args) {
-        StepMap x = Maps.withFive(64);
+        LimitedMap x = Maps.withFive(64);
         CHECKS.due("migrating() with 5 keys of 8", x.migrating(), false);
         x.put(27, 1);
         CHECKS.due("migrating() with 6 keys of 8", x.migrating(), true);

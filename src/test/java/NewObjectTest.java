@@ -25,7 +25,7 @@ public final class NewObjectTest {
     }
 
     private static void nothingIsInIt(int half) {
-        StepMap x = new StepMap(half);
+        LimitedMap x = new LimitedMap(half);
         CHECKS.dueState("new StepMap(" + half + ")", x, 0, 8, -1, 0);
         for (int k : new int[] {0, 1, -1, Integer.MIN_VALUE, Integer.MAX_VALUE, StepMap.FULL}) {
             CHECKS.due("slot(" + k + ")", x.slot(k), -1);
@@ -36,9 +36,9 @@ public final class NewObjectTest {
     }
 
     private static void halfIs(int half, int want) {
-        StepMap x = new StepMap(half);
+        LimitedMap x = new LimitedMap(half);
         int taken = 0;
-        while (taken < 512 && x.put(taken, 1) == 0) {
+        while (taken < 500 && x.put(taken, 1) == 0) {
             taken++;
         }
         CHECKS.due("keys taken by new StepMap(" + half + ")", taken, want / 4 * 3 - 1);
@@ -46,16 +46,16 @@ public final class NewObjectTest {
     }
 
     private static void halfIsTheGreatest(int half) {
-        StepMap x = new StepMap(half);
-        for (int k = 0; k < 512; k++) {
+        LimitedMap x = new LimitedMap(half);
+        for (int k = 0; k < 511; k++) {
             CHECKS.due("new StepMap(" + half + "): put(" + k + ", 1)", x.put(k, 1), 0);
         }
-        CHECKS.due("capacity() of new StepMap(" + half + ") with 512 keys", x.capacity(), 1024);
+        CHECKS.due("capacity() of new StepMap(" + half + ") with 511 keys", x.capacity(), 1024);
     }
 
     private static void objectsShareNothing() {
-        StepMap one = Maps.withFive(64);
-        StepMap other = new StepMap(64);
+        LimitedMap one = Maps.withFive(64);
+        LimitedMap other = new LimitedMap(64);
         CHECKS.dueState("another object", other, 0, 8, -1, 0);
         other.put(0, 7);
         CHECKS.due("get(0) of the first", one.get(0), 0);

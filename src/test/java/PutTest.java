@@ -15,7 +15,7 @@ public final class PutTest {
     }
 
     private static void aKeyMoreComesIntoTheFirstEmptySlot() {
-        StepMap x = new StepMap(64);
+        LimitedMap x = new LimitedMap(64);
         int[] keys = {0, 23, 42, 77, 41};
         int[] slots = {0, 1, 2, 3, 5};
         for (int i = 0; i < keys.length; i++) {
@@ -23,7 +23,7 @@ public final class PutTest {
             CHECKS.due("slot(" + keys[i] + ")", x.slot(keys[i]), slots[i]);
             CHECKS.due("size()", x.size(), i + 1);
         }
-        x = new StepMap(64);
+        x = new LimitedMap(64);
         x.put(1, 1);
         x.put(2, 1);
         CHECKS.due("slot(1), at home", x.slot(1), 7);
@@ -31,7 +31,7 @@ public final class PutTest {
     }
 
     private static void aKnownKeyKeepsItsSlot() {
-        StepMap x = Maps.withFive(64);
+        LimitedMap x = Maps.withFive(64);
         CHECKS.due("put(42, -3)", x.put(42, -3), 0);
         CHECKS.dueState("put of a known key", x, 5, 8, -1, 2);
         CHECKS.due("slot(42)", x.slot(42), 2);
@@ -41,7 +41,7 @@ public final class PutTest {
     }
 
     private static void aKnownKeyOfTheOldTableStaysThere() {
-        StepMap x = Maps.growing();
+        LimitedMap x = Maps.growing();
         CHECKS.due("put(42, 9)", x.put(42, 9), 0);
         CHECKS.dueState("put of an old table's key", x, 6, 16, 0, 3);
         CHECKS.due("slot(42)", x.slot(42), 2002);
@@ -55,7 +55,7 @@ public final class PutTest {
     }
 
     private static void aKeyMoreComesIntoTheNewTable() {
-        StepMap x = Maps.growing();
+        LimitedMap x = Maps.growing();
         CHECKS.due("put(46, 5)", x.put(46, 5), 0);
         CHECKS.due("slot(46)", x.slot(46), 1);
         // It was there before this call's four slots were moved: 23, of home 0, finds slot 1 used.
@@ -66,7 +66,7 @@ public final class PutTest {
     }
 
     private static void aFullMapRefusesAKeyMoreAndNothingElse() {
-        StepMap x = Maps.withFive(8);
+        LimitedMap x = Maps.withFive(8);
         CHECKS.due("put(27, 1)", x.put(27, 1), -2000000001);
         CHECKS.dueState("a refused put", x, 5, 8, -1, 5);
         CHECKS.due("slot(27)", x.slot(27), -1);
@@ -87,7 +87,7 @@ public final class PutTest {
     }
 
     private static void aRefusedKeyMayComeWhenThereIsRoom() {
-        StepMap x = Maps.withFive(8);
+        LimitedMap x = Maps.withFive(8);
         x.put(27, 1);
         x.remove(0);
         CHECKS.due("put(27, 1) with room", x.put(27, 1), 0);
@@ -97,7 +97,7 @@ public final class PutTest {
 
     private static void everyKeyAndValueIsOrdinary() {
         int[] odd = {Integer.MIN_VALUE, Integer.MAX_VALUE, StepMap.FULL, -1, 0};
-        StepMap x = new StepMap(64);
+        LimitedMap x = new LimitedMap(64);
         for (int k : odd) {
             for (int v : odd) {
                 CHECKS.due("put(" + k + ", " + v + ")", x.put(k, v), 0);

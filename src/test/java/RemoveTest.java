@@ -15,7 +15,7 @@ public final class RemoveTest {
     }
 
     private static void whetherItWasThere() {
-        StepMap x = Maps.withFive(64);
+        LimitedMap x = Maps.withFive(64);
         CHECKS.due("remove(27)", x.remove(27), false);
         CHECKS.dueState("remove of a key that is not there", x, 5, 8, -1, 5);
         CHECKS.due("remove(41)", x.remove(41), true);
@@ -25,13 +25,13 @@ public final class RemoveTest {
         x = Maps.growing();
         CHECKS.due("remove(999)", x.remove(999), false);
         CHECKS.dueState("remove of no key moves nothing", x, 6, 16, 0, 8);
-        x = new StepMap(8);
+        x = new LimitedMap(8);
         CHECKS.due("remove(0) of nothing", x.remove(0), false);
         CHECKS.dueState("remove of nothing", x, 0, 8, -1, 1);
     }
 
     private static void keysBehindCloseTheGap() {
-        StepMap x = Maps.withFive(64);
+        LimitedMap x = Maps.withFive(64);
         CHECKS.due("remove(23)", x.remove(23), true);
         // Visited: 0 and 1 to find it, then 2 and 3, whose keys move up, and 4, which is empty.
         CHECKS.dueState("remove(23)", x, 4, 8, -1, 5);
@@ -41,7 +41,7 @@ public final class RemoveTest {
     }
 
     private static void aKeyBeyondTheFreeSlotStays() {
-        StepMap x = new StepMap(64);
+        LimitedMap x = new LimitedMap(64);
         x.put(0, 1);
         x.put(42, 2);
         x.put(77, 3);
@@ -51,7 +51,7 @@ public final class RemoveTest {
     }
 
     private static void aKeyMayMoveOverOneThatStays() {
-        StepMap x = new StepMap(64);
+        LimitedMap x = new LimitedMap(64);
         x.put(0, 1);
         x.put(42, 2);
         x.put(23, 3);
@@ -62,7 +62,7 @@ public final class RemoveTest {
     }
 
     private static void theGapClosesRoundTheRing() {
-        StepMap x = new StepMap(64);
+        LimitedMap x = new LimitedMap(64);
         x.put(1, 1);
         x.put(2, 2);
         x.put(0, 3);
@@ -76,7 +76,7 @@ public final class RemoveTest {
     }
 
     private static void anOldTablesSlotIsTaken() {
-        StepMap x = Maps.growing();
+        LimitedMap x = Maps.growing();
         CHECKS.due("remove(77)", x.remove(77), true);
         // 1 + 2 to find it, 4 slots moved, and for 0, 23 and 42 of these 1 + 2 + 1; 77's slot is only visited.
         CHECKS.dueState("remove(77)", x, 5, 16, 4, 11);
@@ -89,7 +89,7 @@ public final class RemoveTest {
     }
 
     private static void fromTheNewTableWhileItIsMigrating() {
-        StepMap x = Maps.growing();
+        LimitedMap x = Maps.growing();
         x.remove(77);
         CHECKS.due("remove(0)", x.remove(0), true);
         // 1 to find it; 1, whose key moves up, and 2; 4 moved slots, of which 27 and 41 take 1 each.
@@ -98,7 +98,7 @@ public final class RemoveTest {
     }
 
     private static void aMovedKeyIsNotLeftInTheOldTable() {
-        StepMap x = Maps.shrinking();
+        LimitedMap x = Maps.shrinking();
         x.put(46, 1);
         CHECKS.due("slot(23), moved", x.slot(23), 2);
         CHECKS.due("remove(23)", x.remove(23), true);
@@ -109,7 +109,7 @@ public final class RemoveTest {
         CHECKS.due("remove(23) again", x.remove(23), false);
     }
 
-    private static void dueSlots(StepMap x, int[] keys, int[] slots) {
+    private static void dueSlots(LimitedMap x, int[] keys, int[] slots) {
         for (int i = 0; i < keys.length; i++) {
             CHECKS.due("slot(" + keys[i] + ")", x.slot(keys[i]), slots[i]);
         }

@@ -3,8 +3,8 @@ public final class SizeTest {
     private static final Checks CHECKS = new Checks("SizeTest");
 
     public static void main(String[] args) {
-        StepMap x = new StepMap(1024);
-        for (int k = 0; k < 150; k++) {
+        LimitedMap x = new LimitedMap(1024);
+        for (int k = 0; k < 100; k++) {
             x.put(k, k);
             CHECKS.due("size() with key " + k, x.size(), k + 1);
         }
@@ -13,10 +13,10 @@ public final class SizeTest {
         x.has(7);
         x.remove(300);
         x.slot(7);
-        CHECKS.due("size() when no key came or went", x.size(), 150);
-        for (int k = 0; k < 150; k++) {
+        CHECKS.due("size() when no key came or went", x.size(), 100);
+        for (int k = 0; k < 100; k++) {
             x.remove(k);
-            CHECKS.due("size() without key " + k, x.size(), 149 - k);
+            CHECKS.due("size() without key " + k, x.size(), 99 - k);
         }
         x.remove(0);
         CHECKS.due("size() of nothing", x.size(), 0);

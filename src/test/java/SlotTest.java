@@ -4,7 +4,7 @@ public final class SlotTest {
 
     public static void main(String[] args) {
         int[] keys = {0, 23, 42, 77, 41, 27, 999};
-        StepMap x = Maps.withFive(64);
+        LimitedMap x = Maps.withFive(64);
         due(x, keys, new int[] {0, 1, 2, 3, 5, -1, -1}, "five keys");
         x.put(27, 1);
         due(x, keys, new int[] {2000, 2001, 2002, 2003, 2005, 2004, -1}, "doubled");
@@ -24,7 +24,7 @@ public final class SlotTest {
         CHECKS.end();
     }
 
-    private static void due(StepMap x, int[] keys, int[] slots, String when) {
+    private static void due(LimitedMap x, int[] keys, int[] slots, String when) {
         int work = x.lastWork();
         for (int i = 0; i < keys.length; i++) {
             CHECKS.due(when + ": slot(" + keys[i] + ")", x.slot(keys[i]), slots[i]);
@@ -36,7 +36,7 @@ public final class SlotTest {
     private static void homesOfManyKeys() {
         for (int i = -300; i <= 300; i++) {
             int k = i * 7_158_279;
-            StepMap x = new StepMap(8);
+            LimitedMap x = new LimitedMap(8);
             x.put(k, 1);
             long product = Math.floorMod(k * 0x9E3779B1L, 0x100000000L);
             long mixed = product ^ (product / 0x8000L);
