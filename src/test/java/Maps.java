@@ -43,6 +43,31 @@ final class Maps {
         return x;
     }
 
+    /**
+     * Just grown to so many slots, from 16 to 1024: the new table is empty, the cursor 0, and in the old
+     * table's slots 2, 3, .. are Keys.of(2), Keys.of(3), .., with their slot as their value. For 8 slots
+     * a new object, with HALF 1024 like the others.
+     */
+    static LimitedMap grownTo(int slots) {
+        LimitedMap x = new LimitedMap(1024);
+        if (slots > 8) {
+            putHomes(x, 2, keysThatGrowTo(slots));
+        }
+        return x;
+    }
+
+    /** How many keys make a table of half as many slots double. */
+    static int keysThatGrowTo(int slots) {
+        return slots / 2 * 3 / 4;
+    }
+
+    /** Puts Keys.of(first), Keys.of(first + 1), .., each with its home as its value. */
+    static void putHomes(LimitedMap x, int first, int count) {
+        for (int home = first; home < first + count; home++) {
+            x.put(Keys.of(home), home);
+        }
+    }
+
     /** A map with the keys 0 .. count - 1, each its own value. */
     static LimitedMap counted(int half, int count) {
         LimitedMap x = new LimitedMap(half);
